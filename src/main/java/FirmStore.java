@@ -47,7 +47,7 @@ public final class FirmStore {
         if (a == 0) {
             throw new NoSuchElementException();
         }
-        boolean through = t == TREE ? tree.drop(a) : memory.firmStore(a, 0);
+        boolean through = t == TREE ? tree.dropAt(a) : memory.firmStore(a, 0);
         return through ? 1 : CUT;
     }
 
@@ -214,7 +214,7 @@ public final class FirmStore {
         }
     }
 
-    /** How blocks lie in the memory, which of them are free, and how one is made. Block 0 is none. */
+    /** How blocks lie in the memory. Block 0 is none, for a NEXT, the root or a head of 0. */
     private static final class Blocks {
         private static final int BLOCKS = 30;
         private static final int BLOCK_WORDS = 9;
@@ -281,7 +281,7 @@ public final class FirmStore {
             return memory.firmStore(b * BLOCK_WORDS + NEXT, next);
         }
 
-        /** Answers the block made, 0 when a cut came. Who calls it knows that a block is free. */
+        /** A 0 tells that a cut came: whoever calls this has seen that enough blocks are free. */
         int make(int level, int next, int low, long first, long second, long third) {
             int free = freeSet();
             int b = Integer.numberOfTrailingZeros(free);
@@ -341,46 +341,46 @@ public final class FirmStore {
             this.blocks = blocks;
         }
 
-        /** The level of the root's block, -1 when there is no tree. */
+        /** It is -1 without a tree, so that whatever goes over all levels then does nothing. */
         int topLevel() {
             int root = blocks.blockIn(ROOT);
             return root == 0 ? -1 : blocks.levelOf(root);
         }
 
-        /** The address of the place that reading finds for the key, 0 when the key is not there. */
+        /** The address of the key's place; word 0 is no place, so a 0 tells that there is none. */
         int seek(int k) {
             int b = find(k, 0);
-            int p = lesserThan(b, k);
-            if (b == 0 || !hasKeyAt(b, p, k)) {
-                return 0;
-            }
-            return blocks.addressOfPlace(b, p);
+            int p = countLesser(b, k);
+            boolean isThere = b != 0 && p < blocks.rowLength(b) && keyAt(b, p) == k;
+            return isThere ? blocks.addressOfPlace(b, p) : 0;
         }
 
-        /** The least key from k on, KEYS when there is none. */
+        /** KEYS, which is no key, tells that there is none. */
         int leastKeyFrom(int k) {
-            int least = KEYS;
-            for (int b = 1; b <= Blocks.BLOCKS; b++) {
-                int n = blocks.rowLength(b);
-                for (int p = 0; p < n; p++) {
-                    int key = keyOf(blocks.entryAt(b, p));
-                    if (key >= k && key < least && isRead(b, p)) {
-                        least = key;
-                    }
+            int b = find(k, 0);
+            for (int n = 0; n < Blocks.BLOCKS && b != 0; n++) {
+                int p = countLesser(b, k);
+                if (p < blocks.rowLength(b) && keyAt(b, p) < endOf(b)) {
+                    return keyAt(b, p);
                 }
+                b = blocks.nextOf(b);
             }
-            return least;
+            return KEYS;
         }
 
         int countKeys() {
             int count = 0;
-            for (int b = 1; b <= Blocks.BLOCKS; b++) {
-                int n = blocks.rowLength(b);
-                for (int p = 0; p < n; p++) {
-                    if (isRead(b, p)) {
-                        count++;
-                    }
+            int b = firstOf(0);
+            for (int n = 0; n < Blocks.BLOCKS && b != 0; n++) {
+                int end = endOf(b);
+                int length = blocks.rowLength(b);
+                int last = -1;
+                for (int p = 0; p < length && keyAt(b, p) < end; p++) {
+                    // A cut may leave an entry twice, side by side.
+                    count += keyAt(b, p) == last ? 0 : 1;
+                    last = keyAt(b, p);
                 }
+                b = blocks.nextOf(b);
             }
             return count;
         }
@@ -408,16 +408,15 @@ public final class FirmStore {
             return insert(b, entry) ? 1 : CUT;
         }
 
-        /** Drops the place at an address that seek has answered. */
-        boolean drop(int a) {
+        boolean dropAt(int a) {
             int b = a / Blocks.BLOCK_WORDS;
             return dropPlace(b, a - blocks.addressOfPlace(b, 0));
         }
 
-        /** The first half of the recovery: every row holds what belongs to it, and nothing twice. */
+        /** All rows must be right before any block is hung, since that inserts into them. */
         boolean putRight() {
             int top = topLevel();
-            for (int level = 0; level <= top; level++) {
+            for (int level = 0; level < Blocks.BLOCKS && level <= top; level++) {
                 int b = firstOf(level);
                 for (int n = 0; n < Blocks.BLOCKS && b != 0; n++) {
                     if (!clearWrong(b) || !dropTwins(b)) {
@@ -429,7 +428,7 @@ public final class FirmStore {
             return true;
         }
 
-        /** The second half of the recovery. The top level is asked anew, since hanging may raise it. */
+        /** The top level is asked for again and again, since hanging may raise it. */
         boolean hangStrays() {
             for (int level = 0; level < Blocks.BLOCKS && level <= topLevel(); level++) {
                 int b = blocks.nextOf(firstOf(level));
@@ -451,7 +450,6 @@ public final class FirmStore {
             return b != 0 && memory.firmStore(ROOT, b) ? 1 : CUT;
         }
 
-        /** The block found for the key at a level not above the top; 0 when there is no tree. */
         private int find(int k, int level) {
             int b = blocks.blockIn(ROOT);
             for (int n = 0; n < Blocks.BLOCKS && b != 0; n++) {
@@ -470,43 +468,42 @@ public final class FirmStore {
         private int childFor(int b, int k) {
             int n = blocks.rowLength(b);
             for (int p = n - 1; p >= 0; p--) {
-                if (keyOf(blocks.entryAt(b, p)) <= k) {
+                if (keyAt(b, p) <= k) {
                     return blocks.childAt(b, p);
                 }
             }
             return 0;
         }
 
-        /** The leftmost block of a level not above the top. */
         private int firstOf(int level) {
             int b = blocks.blockIn(ROOT);
-            for (int n = 0; n < Blocks.BLOCKS && blocks.levelOf(b) > level; n++) {
+            for (int n = 0; n < Blocks.BLOCKS && b != 0 && blocks.levelOf(b) > level; n++) {
                 b = blocks.childAt(b, 0);
             }
             return b;
         }
 
-        /** How many entries of the row have a lesser key. */
-        private int lesserThan(int b, int k) {
+        private int countLesser(int b, int k) {
             int n = blocks.rowLength(b);
             for (int p = 0; p < n; p++) {
-                if (keyOf(blocks.entryAt(b, p)) >= k) {
+                if (keyAt(b, p) >= k) {
                     return p;
                 }
             }
             return n;
         }
 
-        private boolean hasKeyAt(int b, int p, int k) {
-            return p < blocks.rowLength(b) && keyOf(blocks.entryAt(b, p)) == k;
+        private int keyAt(int b, int p) {
+            return keyOf(blocks.entryAt(b, p));
         }
 
         /**
-         * A cut may leave a key twice in a row, or in the rows of two blocks, and old entries in
-         * free blocks: only the place that a search for the key comes to counts.
+         * A split that was cut off leaves entries in a row that the next block has too. A search
+         * goes on to the next block for them, so here they count for nothing.
          */
-        private boolean isRead(int b, int p) {
-            return seek(keyOf(blocks.entryAt(b, p))) == blocks.addressOfPlace(b, p);
+        private int endOf(int b) {
+            int next = blocks.nextOf(b);
+            return next == 0 ? KEYS : blocks.lowOf(next);
         }
 
         private boolean isHung(int y, int level) {
@@ -526,13 +523,13 @@ public final class FirmStore {
             return false;
         }
 
-        /** How many blocks the split of b and all that follows from it would make. */
+        /** Counts the blocks to make for every level that splits, before anything is stored. */
         private int blocksToSplit(int b) {
             int top = topLevel();
             int count = 1;
             int full = b;
-            for (int level = 1; level <= top; level++) {
-                full = find(keyOf(blocks.entryAt(full, SPLIT_PLACE)), level);
+            for (int level = 1; level < Blocks.BLOCKS && level <= top; level++) {
+                full = find(keyAt(full, SPLIT_PLACE), level);
                 if (!blocks.isFull(full)) {
                     return count;
                 }
@@ -541,10 +538,9 @@ public final class FirmStore {
             return count + 1;
         }
 
-        /** Answers the new block, 0 when a cut came. */
         private int split(int x) {
-            long third = blocks.entryAt(x, SPLIT_PLACE);
-            int y = blocks.make(blocks.levelOf(x), blocks.nextOf(x), keyOf(third), third,
+            long middle = blocks.entryAt(x, SPLIT_PLACE);
+            int y = blocks.make(blocks.levelOf(x), blocks.nextOf(x), keyOf(middle), middle,
                     blocks.entryAt(x, SPLIT_PLACE + 1), blocks.entryAt(x, SPLIT_PLACE + 2));
             if (y == 0 || !blocks.linkNext(x, y)) {
                 return 0;
@@ -586,7 +582,7 @@ public final class FirmStore {
         }
 
         private boolean insert(int b, long entry) {
-            int p = lesserThan(b, keyOf(entry));
+            int p = countLesser(b, keyOf(entry));
             for (int i = blocks.rowLength(b); i > p; i--) {
                 long moved = blocks.entryAt(b, i - 1);
                 if (!memory.firmStore(blocks.addressOfPlace(b, i), moved)) {
@@ -642,11 +638,11 @@ public final class FirmStore {
             return true;
         }
 
-        /** The second of the first two entries side by side with one key, 0 when there are none. */
+        /** Place 0 is never the second of two, so a 0 tells that there are none. */
         private int secondTwin(int b) {
             int n = blocks.rowLength(b);
             for (int p = 1; p < n; p++) {
-                if (keyOf(blocks.entryAt(b, p)) == keyOf(blocks.entryAt(b, p - 1))) {
+                if (keyAt(b, p) == keyAt(b, p - 1)) {
                     return p;
                 }
             }
@@ -669,7 +665,6 @@ public final class FirmStore {
             this.blocks = blocks;
         }
 
-        /** The address of the place that has the key, 0 when the key is not there. */
         int seek(int k) {
             return seekInChain(headOf(k), k);
         }
