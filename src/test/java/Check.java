@@ -1,9 +1,24 @@
+import java.util.NoSuchElementException;
+
 /** Counts and prints the answers that are not as due. */
 final class Check {
-    private static int wrong = 0;
+    static final Class<IllegalArgumentException> ARGUMENT = IllegalArgumentException.class;
+    static final Class<IllegalStateException> STATE = IllegalStateException.class;
+    static final Class<NoSuchElementException> NONE = NoSuchElementException.class;
+    private static final int MOST_TOLD = 20;
+
     private static int asked = 0;
+    private static int wrong = 0;
+    private static int told = 0;
+    private static String prefix = "";
 
     private Check() {
+    }
+
+    /** What is asked from now on belongs to this case. */
+    static void begin(String name) {
+        prefix = name + ": ";
+        told = 0;
     }
 
     static boolean same(String what, long got, long due) {
@@ -11,10 +26,7 @@ final class Check {
         if (got == due) {
             return true;
         }
-        wrong++;
-        if (wrong <= 50) {
-            System.out.println(what + " answered " + got + ", due is " + due);
-        }
+        fail(what + " answered " + got + ", due is " + due);
         return false;
     }
 
@@ -32,15 +44,20 @@ final class Check {
         try {
             call.run();
         } catch (RuntimeException e) {
-            if (e.getClass() == due) {
-                return;
+            if (e.getClass() != due) {
+                fail(what + " threw " + e.getClass().getName() + ", due is " + due.getName());
             }
-            wrong++;
-            System.out.println(what + " threw " + e.getClass().getName() + ", due is " + due.getName());
             return;
         }
+        fail(what + " threw nothing, due is " + due.getName());
+    }
+
+    static void fail(String fault) {
         wrong++;
-        System.out.println(what + " threw nothing, due is " + due.getName());
+        told++;
+        if (told <= MOST_TOLD) {
+            System.out.println(prefix + fault);
+        }
     }
 
     static boolean anyWrong() {

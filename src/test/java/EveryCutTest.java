@@ -1,9 +1,12 @@
+import java.util.ArrayList;
 import java.util.Arrays;
 import java.util.HashSet;
+import java.util.List;
 import java.util.NoSuchElementException;
 import java.util.Random;
 import java.util.Set;
 import java.util.TreeMap;
+import java.util.function.Supplier;
 
 /**
  * One call after a run of puts is cut at each of its stores, and each recovery from that at each of
@@ -126,9 +129,8 @@ public final class EveryCutTest {
         Set<String> images = new HashSet<>();
         for (int n = 0; n < cost; n++) {
             for (int mask = 0; mask < 256; mask++) {
-                FirmStore store = cutOff(n, mask);
-                if (images.add(image(store))) {
-                    afterCut(store, "cut " + n + "/" + mask);
+                if (images.add(image(cutOff(n, mask)))) {
+                    afterCut(again(n, mask), "cut " + n + "/" + mask);
                 }
             }
         }
@@ -149,24 +151,39 @@ public final class EveryCutTest {
         return store;
     }
 
+    /** The run up to the cut, as often as it is asked for: one object has only 512 calls. */
+    private Supplier<FirmStore> again(int n, int mask) {
+        return () -> cutOff(n, mask);
+    }
+
+    private Supplier<FirmStore> again(int n, int mask, int r, int m) {
+        return () -> {
+            FirmStore store = cutOff(n, mask);
+            store.order(r, m);
+            store.recover();
+            return store;
+        };
+    }
+
     private void everyCutOfRecovery(int n, int mask) {
         Set<String> images = new HashSet<>();
         boolean through = false;
         for (int r = 0; r <= 60 && !through; r++) {
             for (int m : MASKS) {
-                FirmStore store = cutOff(n, mask);
-                store.order(r, m);
-                through = store.recover() != FirmStore.CUT;
+                Supplier<FirmStore> again = again(n, mask, r, m);
+                FirmStore store = again.get();
+                through = !store.down();
                 if (!through && images.add(image(store))) {
-                    afterCut(store, "cut " + n + "/" + mask + ", recovery cut " + r + "/" + m);
+                    afterCut(again, "cut " + n + "/" + mask + ", recovery cut " + r + "/" + m);
                 }
             }
         }
         Check.isTrue(name + ", a recovery ends", through);
     }
 
-    private void afterCut(FirmStore store, String where) {
+    private void afterCut(Supplier<FirmStore> again, String where) {
         String what = name + ", " + where;
+        FirmStore store = again.get();
         Check.isTrue(what + ", down", store.down());
         int is = readable(store, what);
         int stores = store.stores();
@@ -174,18 +191,25 @@ public final class EveryCutTest {
         Check.same(what + ", recover", answer, store.stores() - stores);
         Check.isFalse(what + ", up", store.down());
         Check.same(what + ", recovery changes no key", readable(store, what), is);
+        callAgain(store, is, what);
         if (t == 0) {
-            whole(store, what);
+            FirmStore recovered = again.get();
+            recovered.recover();
+            whole(recovered, what);
+            FirmStore calledAgain = again.get();
+            calledAgain.recover();
+            callAgain(calledAgain, is, what);
+            whole(calledAgain, what + ", again");
         }
+    }
+
+    private void callAgain(FirmStore store, int is, String what) {
         boolean wasThere = is != ABSENT;
         if (!removes) {
             Check.same(what + ", put again", call(store), wasThere ? 0 : 1);
             Check.same(what + ", get", store.get(t, key), -key);
         } else if (wasThere) {
             Check.same(what + ", remove again", call(store), 1);
-        }
-        if (t == 0) {
-            whole(store, what + ", again");
         }
     }
 
@@ -224,44 +248,59 @@ public final class EveryCutTest {
 
     /** Every level's blocks, in a row, are the values of the next level's, and the rows rise. */
     private static void whole(FirmStore store, String what) {
-        int root = (int) store.word(0);
+        long[] words = words(store);
+        int root = (int) words[0];
         if (root == 0) {
             return;
         }
-        Check.same(what + ", next of the root", store.word(9 * root + 1), 0);
-        for (int first = root; ; first = (int) store.word(9 * first + 3)) {
-            long last = -1;
-            StringBuilder children = new StringBuilder();
-            for (int b = first; b != 0; b = (int) store.word(9 * b + 1)) {
-                boolean ended = false;
-                for (int a = 9 * b + 3; a <= 9 * b + 8; a++) {
-                    long key = (store.word(a) >>> 32) - 1;
-                    ended |= key < 0;
-                    if (ended) {
-                        Check.same(what + ", behind the row", store.word(a), 0);
-                        continue;
-                    }
-                    Check.isTrue(what + ", rising", key > last && key >= store.word(9 * b + 2));
-                    children.append((int) store.word(a)).append(' ');
-                    last = key;
-                }
-            }
-            if (store.word(9 * first) == 0) {
-                return;
-            }
-            StringBuilder row = new StringBuilder();
-            for (int b = (int) store.word(9 * first + 3); b != 0; b = (int) store.word(9 * b + 1)) {
-                row.append(b).append(' ');
-            }
-            Check.isTrue(what + ", " + children + "is " + row, row.toString().equals(children.toString()));
+        Check.same(what + ", next of the root", words[9 * root + 1], 0);
+        int first = root;
+        while (words[9 * first] > 0) {
+            List<Integer> values = risingValues(words, first, what);
+            first = (int) words[9 * first + 3];
+            List<Integer> blocks = chain(words, first);
+            Check.isTrue(what + ", " + values + " is " + blocks, values.equals(blocks));
         }
+        risingValues(words, first, what);
     }
 
-    private static String image(FirmStore store) {
+    private static List<Integer> chain(long[] words, int first) {
+        List<Integer> blocks = new ArrayList<>();
+        for (int b = first; b != 0 && blocks.size() < 30; b = (int) words[9 * b + 1]) {
+            blocks.add(b);
+        }
+        return blocks;
+    }
+
+    private static List<Integer> risingValues(long[] words, int first, String what) {
+        List<Integer> values = new ArrayList<>();
+        long last = -1;
+        for (int b : chain(words, first)) {
+            boolean ended = false;
+            for (int a = 9 * b + 3; a <= 9 * b + 8; a++) {
+                long key = (words[a] >>> 32) - 1;
+                ended |= key < 0;
+                if (ended) {
+                    Check.same(what + ", behind the row", words[a], 0);
+                    continue;
+                }
+                Check.isTrue(what + ", rising", key > last && key >= words[9 * b + 2]);
+                values.add((int) words[a]);
+                last = key;
+            }
+        }
+        return values;
+    }
+
+    private static long[] words(FirmStore store) {
         long[] words = new long[279];
         for (int a = 0; a < words.length; a++) {
             words[a] = store.word(a);
         }
-        return Arrays.toString(words);
+        return words;
+    }
+
+    private static String image(FirmStore store) {
+        return Arrays.toString(words(store));
     }
 }
