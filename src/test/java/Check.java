@@ -30,6 +30,13 @@ final class Check {
         return false;
     }
 
+    static void same(String what, String got, String due) {
+        asked++;
+        if (!got.equals(due)) {
+            fail(what + " answered " + got + ", due is " + due);
+        }
+    }
+
     static void isTrue(String what, boolean got) {
         same(what, got ? 1 : 0, 1);
     }

@@ -37,7 +37,7 @@ public final class ReadmeTest {
             store = new FirmStore();
         } else if (call.matches()) {
             String got = answer(call.group(1), numbers(call.group(2)));
-            Check.isTrue(line + " answered " + got + ", which", got.equals(call.group(3)));
+            Check.same(call.group(1) + "(" + call.group(2) + ")", got, call.group(3));
             calls++;
         } else {
             Check.fail("not understood: " + line);
